@@ -14,6 +14,7 @@ public final class ProofsTest {
         needsRules();
         lastly();
         firstForty();
+        cutParts();
         tooDear();
         where();
         resold();
@@ -206,6 +207,32 @@ public final class ProofsTest {
             turned.rules(0, 65535 & ~4);
             due.is("others behind " + others, cost, turned.cheapest(0, 0, 0));
         }
+    }
+
+    /** The goal, 22 to 39 parts of two other beliefs, and beliefs behind these whose last part may be beyond forty. */
+    private static void cutAt(int others, int cost, int things, String goal, String... behind) {
+        String[] texts = new String[behind.length + 3];
+        texts[0] = goal;
+        texts[1] = row("q", "rq", 19);
+        texts[2] = row("q", "rq", others - 21).replace('&', '|');
+        System.arraycopy(behind, 0, texts, 3, behind.length);
+        due.is("cheapest with " + others + " others", cost, shop(things, texts).cheapest(0, 0, 0));
+    }
+
+    private static void cutParts() {
+        cutAt(35, 11 + 15 + 13 + 11 + 11, 2, "g0", "p", "p&s>g0", "s");
+        cutAt(36, NONE, 2, "g0", "p", "p&s>g0", "s");
+        cutAt(37, 11 + 13 + 11, 2, "g0", "s>g0", "s");
+        cutAt(38, NONE, 2, "g0", "s>g0", "s");
+        cutAt(35, 11 + 14 + 12 + 11 + 11, 2, "g0", "f0", "all fx>g0", "f1");
+        cutAt(36, NONE, 2, "g0", "f0", "all fx>g0", "f1");
+        cutAt(34, 11 + 14 + 12 + 11 + 11 + 11, 3, "g0", "f0", "f1", "all fx>g0", "f2");
+        cutAt(35, NONE, 3, "g0", "f0", "f1", "all fx>g0", "f2");
+        cutAt(35, 11 + 14 + 12 + 11, 2, "g0", "some fx>g0", "f0", "f1");
+        cutAt(37, NONE, 2, "g0", "some fx>g0", "f0", "f1");
+        // The 40th is s>g1, whose s is beyond: it cannot be assumed, though g1 is believed.
+        cutAt(35, 11 + 15 + 13 + 11 + 11, 2, "g0", "g1", "(s>g1)>g0");
+        cutAt(36, NONE, 2, "g0", "g1", "(s>g1)>g0");
     }
 
     /** Each atom is proved from two of the one before it: costs double. */

@@ -218,6 +218,8 @@ public final class WorldsTest {
         due.is("none", -1, none.more(0, 0));
         ProofShop always = Due.shop("p|-p");
         due.is("what always holds", 0, always.more(3, 0));
+        ProofShop early = Due.shopOf(3, "p", "p&-g2");
+        due.is("holds in lesser worlds alone", 2, early.more(0, 0));
         due.fails("more 4 0", Due.INDEX, () -> shop.more(4, 0));
         due.fails("more 0 6", Due.INDEX, () -> shop.more(0, 6));
     }
