@@ -13,19 +13,44 @@ final class Due {
         long answer();
     }
 
+    interface OneNumber {
+        long answer(int number);
+    }
+
+    static long bit(boolean is) {
+        return is ? 1L : 0L;
+    }
+
     private int wrong = 0;
     private int asked = 0;
+    private String sentence = "";
+
+    /** The next answers are about this sentence of a promise. */
+    void promise(int number, String text) {
+        quote(Document.promise(number), text);
+    }
+
+    /** The next answers are about this sentence of the terms. */
+    void term(String text) {
+        quote(Document.TERMS, text);
+    }
+
+    void quote(String section, String text) {
+        sentence = "";
+        is("the document says in '" + section + "': " + text, true, Document.says(section, text));
+        sentence = section + " '" + text + "': ";
+    }
 
     void is(String what, long want, long got) {
         asked++;
         if (got != want) {
             wrong++;
-            System.out.println(what + " answered " + got + ", due is " + want);
+            System.out.println(sentence + what + " answered " + got + ", due is " + want);
         }
     }
 
     void is(String what, boolean want, boolean got) {
-        is(what, want ? 1L : 0L, got ? 1L : 0L);
+        is(what, bit(want), bit(got));
     }
 
     void fails(String what, String want, Call call) {
@@ -38,7 +63,7 @@ final class Due {
         }
         if (!got.equals(want)) {
             wrong++;
-            System.out.println(what + " threw " + got + ", due is " + want);
+            System.out.println(sentence + what + " threw " + got + ", due is " + want);
         }
     }
 
@@ -81,6 +106,22 @@ final class Due {
             tell(shop, text);
         }
         return shop;
+    }
+
+    /** Thirty formulas: those told, and behind them the last one again and again. */
+    static ProofShop fullOf(int things, String... texts) {
+        ProofShop shop = shopOf(things, texts);
+        for (int i = texts.length; i < 30; i++) {
+            tell(shop, texts[texts.length - 1]);
+        }
+        return shop;
+    }
+
+    /** A call with one number is refused for each of these. */
+    void refuses(String what, String want, OneNumber call, int... numbers) {
+        for (int number : numbers) {
+            fails(what + " " + number, want, () -> call.answer(number));
+        }
     }
 
     /** The text is wrong, and its fault is at a place. */
