@@ -276,6 +276,11 @@ public final class BoundaryLinesTest {
         shop.line(0, 0, 2, 38, NONE, NONE);
         due.is("line 37", false, shop.is(37, 2));
         due.is("the last", true, shop.is(39, 2));
+        ProofShop anew = Due.shop("p");
+        anew.image();
+        due.is("assumed", true, anew.is(assume(anew, 0), 2));
+        anew.back();
+        due.is("another of its number", false, anew.is(anew.line(0, 0, BELIEF, 0, NONE, NONE), 2));
     }
 
     private static void stale() {

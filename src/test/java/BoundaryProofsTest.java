@@ -8,6 +8,8 @@ public final class BoundaryProofsTest {
 
     public static void main(String[] args) {
         cheapest();
+        byEachRule();
+        askedAgain();
         forNothing();
         noSuchInProof();
         rulesButBought();
@@ -72,6 +74,57 @@ public final class BoundaryProofsTest {
         due.is("the last of all", 11, shop.cheapest(2, 3, 29));
         due.is("what is SAME", 11, shop.cheapest(2, 3, 1));
         due.is("for another", NONE, shop.cheapest(2, 2, 29));
+    }
+
+    private static void proves(int cost, int rule, int things, String... texts) {
+        ProofShop shop = shop(things, texts);
+        String what = String.join(", ", texts);
+        due.is("cheapest " + what, cost, shop.cheapest(0, 3, 0));
+        due.is("lastly " + what, rule, shop.lastly(0, 3, 0));
+        shop.rules(0, 65535 & ~(1 << rule));
+        due.is("without rule " + rule + " " + what, NONE, shop.cheapest(0, 3, 0));
+        due.is("lastly of none " + what, NONE, shop.lastly(0, 3, 0));
+    }
+
+    private static void byEachRule() {
+        due.term("any other as its LINE and the COSTS of its premises");
+        proves(11, 0, 2, "p", "p");
+        proves(11 + 11 + 13, 2, 2, "p&q", "p", "q");
+        proves(13 + 11, 3, 2, "p", "p&q");
+        proves(13 + 11, 4, 2, "q", "p&q");
+        proves(11 + 13, 5, 2, "p|q", "p");
+        proves(11 + 13, 6, 2, "p|q", "q");
+        proves(11 + 13 + 11, 7, 2, "q", "p", "p>q");
+        proves(13 + 11, 8, 2, "p", "--p");
+        proves(13 + 13 + 13 + 11, 9, 2, "r", "p|q", "p>r", "q>r");
+        proves(13 + 13 + 13 + 11, 9, 2, "r", "p>r", "q>r", "p|q");
+        due.is("of another first", NONE, shop(2, "r", "p|q", "s>r", "q>r").cheapest(0, 3, 0));
+        due.is("of another second", NONE, shop(2, "r", "p|q", "p>r", "s>r").cheapest(0, 3, 0));
+        due.is("of another C", NONE, shop(2, "r", "p|q", "p>r", "q>s").cheapest(0, 3, 0));
+        proves(13 + 11 + 11, 10, 2, "p>p");
+        proves(12 + 11, 11, 2, "f1", "all fx");
+        proves(11 + 11 + 12, 12, 2, "all fx", "f0", "f1");
+        proves(11 + 12, 13, 2, "some fx", "f1");
+        proves(11 + 12 + 11, 14, 2, "q", "p", "-p");
+        // The goal itself is assumed, and stands against p there.
+        proves(17 + 14 + 12 + 11 + 11 + 12 + 12, 7, 2, "-p", "p", "(-p>r)>-p");
+        // The same of CASES: p>r is assumed, so that r is had from p|p.
+        proves(19 + 15 + 13 + 11 + 13 + 13 + 13 + 13, 7, 2, "p>r", "p|p", "((p>r)>r)>p>r");
+    }
+
+    private static void askedAgain() {
+        due.promise(25, "CHEAPEST: the COST, none being ASSUMED; NONE.");
+        ProofShop shop = Due.shop("p>q>r>r", "s>s", "s", "(q>q)|s", "p&-p>s");
+        for (int time = 0; time < 3; time++) {
+            due.is("three assumed", 89, shop.cheapest(0, 0, 0));
+            due.is("another", 35, shop.cheapest(0, 0, 1));
+            due.is("none", NONE, shop.cheapest(0, 0, 2));
+            due.is("one more", 35 + 15, shop.cheapest(0, 0, 3));
+            due.is("lastly", 5, shop.lastly(0, 0, 3));
+            due.is("where", 0, shop.where(0, 3));
+            // p&-p is assumed, p and -p are its sides: s by ABSURD.
+            due.is("the last", 16 + 14 + 14 + 14 + 11 + 12 + 11, shop.cheapest(0, 0, 4));
+        }
     }
 
     private static void forNothing() {
@@ -156,6 +209,17 @@ public final class BoundaryProofsTest {
         due.is("what he believes", 24, shop.cheapest(0, 0, 0));
         due.is("the goal alone", 35, shop.cheapest(0, 3, 3));
         due.is("nothing told, no goal that follows", NONE, shop.cheapest(0, 2, 3));
+        // Without ON, r is proved by CASES alone, and p|q is asked for that.
+        ProofShop cases = Due.shop("p>r", "q>r", "p", "p|q|s", "r");
+        cases.rules(0, 65535 & ~(1 << 7));
+        for (int formula = 0; formula < 3; formula++) {
+            cases.believe(3, formula, true);
+        }
+        due.is("p|q is told, but not believed", NONE, cases.cheapest(0, 3, 4));
+        cases.believe(3, 3, true);
+        due.is("a part of what he believes", 13 + 13 + 11 + 13 + 11, cases.cheapest(0, 3, 4));
+        due.is("formula 0 is a belief, too", 13, cases.cheapest(0, 3, 0));
+        due.is("of formula 0", 11 + 13 + 11, cases.cheapest(1, 3, 4));
     }
 
     private static void firstForty() {
@@ -327,6 +391,19 @@ public final class BoundaryProofsTest {
         due.term("all FORMULAS among those looked at;");
         proves(NONE, 2, "--p", "p");
         proves(NONE, 2, "q", "p|q", "-p");
+        // What is asked next stands just within the forty, then just beyond them: s, s, f1, f2, f1, f0.
+        proves(11 + 11 + 13 + 15 + 11, 2, withOthers(34, "g0", "r", "r&s>g0", "s"));
+        proves(11 + 11 + 13 + 15 + 11, 2, withOthers(35, "g0", "r", "r&s>g0", "s"));
+        proves(NONE, 2, withOthers(36, "g0", "r", "r&s>g0", "s"));
+        proves(11 + 13 + 11, 2, withOthers(37, "g0", "s>g0", "s"));
+        proves(NONE, 2, withOthers(38, "g0", "s>g0", "s"));
+        proves(11 + 11 + 12 + 14 + 11, 2, withOthers(35, "g0", "f0", "all fx>g0", "f1"));
+        proves(NONE, 2, withOthers(36, "g0", "f0", "all fx>g0", "f1"));
+        proves(11 + 11 + 11 + 12 + 14 + 11, 3, withOthers(34, "g0", "f0", "f1", "all fx>g0", "f2"));
+        proves(NONE, 3, withOthers(35, "g0", "f0", "f1", "all fx>g0", "f2"));
+        proves(NONE, 3, withOthers(36, "g0", "f0", "f2", "all fx>g0", "f1"));
+        proves(11 + 11 + 13 + 15 + 11, 2, withOthers(35, "g0", "r", "(f0>r)>g0"));
+        proves(NONE, 2, withOthers(36, "g0", "r", "(f0>r)>g0"));
         // p&s would be needed, which is no part of any.
         proves(NONE, 2, "r", "p", "s", "q&q>r");
         proves(11 + 11 + 13 + 15 + 11, 2, "r", "p", "s", "p&s>r");
@@ -407,6 +484,11 @@ public final class BoundaryProofsTest {
         due.is("a belief is the least", 0, zero.lastly(0, 3, 0));
         zero.believe(3, 2, false);
         due.is("TWICE", 8, zero.lastly(0, 3, 0));
+        // p may be assumed at the cost of its proof by LEFT, but not by itself.
+        ProofShop same = shop(2, "p", "p&q", "p>r");
+        same.price(0, 1, 23);
+        due.is("by LEFT", 24, same.cheapest(0, 3, 0));
+        due.is("it is LEFT", 3, same.lastly(0, 3, 0));
         // By ABSURD and by ON alike: 11 + 12 + 11 and 11 + 13 + 11 but for one.
         ProofShop absurd = shop(2, "q", "p", "-p", "p>q");
         due.is("ABSURD is cheaper", 14, absurd.lastly(0, 3, 0));

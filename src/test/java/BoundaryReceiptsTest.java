@@ -129,23 +129,24 @@ public final class BoundaryReceiptsTest {
         due.is("all receipts", 30, shop.count(3));
     }
 
-    /** Receipts: 0 of what is not honest, 1 not sound, 2 stale, 3 open, 4 sold to 3 before, as receipt 5. */
+    /** Lines: 0 is not honest, 1 not sound, 2 stale and 3 on it, 4 open, 5 and 6 are SAME: 6 was sold to 3 before 5. */
     private static void laws() {
         due.term("By the LAW of refund (bits):");
-        ProofShop shop = Due.shop("p", "p|p", "q", "r", "s", "(s)");
+        ProofShop shop = Due.shop("p", "p|p", "q", "q|q", "r", "s", "(s)");
         shop.believe(0, 2, true);
-        shop.believe(0, 4, true);
+        shop.believe(0, 5, true);
         shop.line(0, 0, 3, NONE, NONE, NONE);
         shop.line(0, 1, 5, 0, NONE, NONE);
         shop.line(0, 2, BELIEF, 0, NONE, NONE);
-        shop.line(0, 3, ASSUMED, NONE, NONE, NONE);
-        shop.line(0, 4, BELIEF, 0, NONE, NONE);
+        shop.line(0, 3, 5, 2, NONE, NONE);
+        shop.line(0, 4, ASSUMED, NONE, NONE, NONE);
         shop.line(0, 5, BELIEF, 0, NONE, NONE);
+        shop.line(0, 6, BELIEF, 0, NONE, NONE);
         shop.believe(0, 2, false);
-        for (int line = 0; line < 6; line++) {
-            shop.sell(line, line < 4 ? line : 3, 1 << line, 6 - line);
+        for (int line = 0; line < 7; line++) {
+            shop.sell(line, line < 4 ? line : 3, 1 << line, 7 - line);
         }
-        int[] paid = {0b000101, 0b000111, 0b000100, 0b001000, 0b010000};
+        int[] paid = {0b0000101, 0b0001111, 0b0001100, 0b0010000, 0b0100000};
         for (int law = 0; law <= 31; law++) {
             int want = 0;
             for (int bit = 0; bit < 5; bit++) {
@@ -153,7 +154,7 @@ public final class BoundaryReceiptsTest {
             }
             due.is("law " + law, want, shop.refunds(law));
             due.is("owed by law " + law, want, shop.owes(0, NONE, law));
-            due.is("gained by law " + law, 63 - want, shop.gains(0, law));
+            due.is("gained by law " + law, 127 - want, shop.gains(0, law));
         }
     }
 
@@ -361,6 +362,10 @@ public final class BoundaryReceiptsTest {
         due.promise(42, "DEARER, as bits (VOID ones, too).");
         due.term("DEARER: RECEIPTS of BOUGHT LINES that cost more than all LINES on which the LINE stands (each once, it too, by PRICES of their HOUSES) would.");
         due.is("no receipt", 0, three().dearer());
+        ProofShop one = Due.shop("p");
+        one.line(0, 0, BOUGHT, NONE, NONE, NONE);
+        one.sell(0, 0, 12, 0);
+        due.is("the first receipt", 1, one.dearer());
         ProofShop shop = Due.shop("p");
         shop.line(0, 0, ASSUMED, NONE, NONE, NONE);
         shop.line(1, 0, BOUGHT, 0, NONE, NONE);

@@ -18,6 +18,7 @@ public final class BoundaryTextTest {
         fortySigns();
         signOfEachKind();
         wordsGoOn();
+        wordsButOneLetter();
         blanks();
         firstWrongByte();
         wrongWords();
@@ -34,6 +35,7 @@ public final class BoundaryTextTest {
         formulaAgain();
         formulaWrong();
         formulaFull();
+        thirtyOfForty();
         fault();
         due.close("BoundaryTextTest");
     }
@@ -277,6 +279,22 @@ public final class BoundaryTextTest {
         reads(2, "pA", 1);
         reads(2, "aLL p", 0);
         reads(2, "All p", 0);
+    }
+
+    /** Each letter of each word that is one in place of each of the others. */
+    private static void wordsButOneLetter() {
+        due.term("(a word that is none,");
+        for (String word : new String[] {"all", "some", "fx", "gx"}) {
+            for (int at = 0; at < word.length(); at++) {
+                for (char letter = 'a'; letter <= 'z'; letter++) {
+                    String other = word.substring(0, at) + letter + word.substring(at + 1);
+                    boolean isWord = other.equals("all") || other.equals("some") || other.equals("fx") || other.equals("gx");
+                    boolean isAtom = word.length() == 2;
+                    String text = isAtom ? "all " + other : other + " p";
+                    reads(2, text, isWord ? RIGHT : isAtom ? 4 : 0);
+                }
+            }
+        }
     }
 
     private static void blanks() {
@@ -552,6 +570,28 @@ public final class BoundaryTextTest {
         shop.back();
         due.is("the 30th anew", 29, Due.tell(shop, "r&q"));
         due.is("is another", 3, shop.signs(29));
+    }
+
+    /** Thirty formulas of forty signs over three things, no two of them SAME: the first letters tell each. */
+    private static void thirtyOfForty() {
+        due.term("FORMULAS (at most 30, numbered from 0 on)");
+        ProofShop shop = Due.shopOf(3);
+        for (int i = 0; i < 30; i++) {
+            StringBuilder text = new StringBuilder(i % 2 == 0 ? "all(" : "some(");
+            for (int bit = 0; bit < 5; bit++) {
+                text.append((i >> bit & 1) == 0 ? "p&" : "q&");
+            }
+            text.append("fx&gx&".repeat(7)).append("fx)");
+            due.is("number of " + text, i, Due.tell(shop, text.toString()));
+        }
+        for (int i = 0; i < 30; i++) {
+            due.is("signs of " + i, 40, shop.signs(i));
+            // Of 64 ways of f and g, all(fx&gx) has 1, some(fx&gx) 37; p alone is asked by 0, else p and q.
+            due.is("worlds of " + i, (i == 0 ? 8 : 4) * (i % 2 == 0 ? 1 : 37), shop.worlds(i));
+            for (int k = i + 1; k < 30; k += 3) {
+                due.is("SAME " + i + " and " + k, false, shop.same(i, k));
+            }
+        }
     }
 
     private static void fault() {

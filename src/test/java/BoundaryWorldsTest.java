@@ -6,6 +6,8 @@ public final class BoundaryWorldsTest {
     private static final int MOST = Integer.MAX_VALUE;
     /** Holds in the last world alone. */
     private static final String LAST = "p&q&r&s&all(fx&gx)";
+    /** Holds in the first world alone. */
+    private static final String FIRST = "-(p|q|r|s|some(fx|gx))";
 
     public static void main(String[] args) {
         newObject();
@@ -337,6 +339,11 @@ public final class BoundaryWorldsTest {
         due.is("one that holds", 0, shop.withdraw(1 << 15));
         due.is("of two the least", 1, shop.withdraw(3));
         due.is("fewest, not least", 1 << 3, shop.withdraw(1 | 4 | 8));
+        due.is("of two the least, turned", 2, shop.withdraw(6));
+        for (int things = 1; things <= 3; things++) {
+            due.is("the first world alone", 2, Due.shopOf(things, FIRST, "p", FIRST).withdraw(7));
+            due.is("the last world alone", 2, Due.shopOf(things, LAST, "-p", LAST).withdraw(7));
+        }
         due.is("of two halves the least", 0x1555, shop.withdraw(0x3FFF));
         due.is("the highest", 1 << 15, shop.withdraw(1 << 15 | 1 << 14 | 1 << 12));
         ProofShop full = Due.fullOf(2, "p", "p&-p");
@@ -362,6 +369,8 @@ public final class BoundaryWorldsTest {
         due.is("nothing told", 0, shop.idle(3));
         shop.believe(3, 0, true);
         due.is("one alone", 0, shop.idle(3));
+        due.is("formula 0", 1, told(2, "p|-p", "p").idle(0));
+        due.is("formulas 0 and 1", 3, told(2, "p", "(p)").idle(0));
         shop.believe(3, 1, true);
         due.is("what always holds", 2, shop.idle(3));
         shop.believe(3, 29, true);
@@ -383,6 +392,11 @@ public final class BoundaryWorldsTest {
         due.is("it, too", 31, shop.alike(4));
         due.is("all but in the last world", (1 << 30) - 32, shop.alike(29));
         due.is("alone", 2, Due.shop("p", "-p").alike(1));
+        for (int things = 1; things <= 3; things++) {
+            due.is("all but in the first world", 1, Due.shopOf(things, "-p", "-p&-(" + FIRST + ")").alike(0));
+            due.is("all but in the last world", 1, Due.shopOf(things, "p", "p&-(" + LAST + ")").alike(0));
+        }
+        due.is("they differ in worlds 0 to 63 alone", 1, Due.shop("p", "p&(g0|g1)").alike(0));
         due.refuses("formula", Due.INDEX, n -> shop.alike(n), -1, 30, LEAST, MOST);
     }
 
@@ -395,6 +409,11 @@ public final class BoundaryWorldsTest {
         due.is("of several the least", 3, shop.core(0x3FFF));
         due.is("the highest", 3 << 14, shop.core(3 << 14));
         due.is("fewest, not least", 1 << 3, Due.shop("p", "-p", "q", "r&-r").core(15));
+        for (int things = 1; things <= 3; things++) {
+            due.is("they hold in the first world alone", 0, Due.shopOf(things, FIRST, "-p").core(3));
+            due.is("they hold in the last world alone", 0, Due.shopOf(things, LAST, "p").core(3));
+            due.is("in none", 3, Due.shopOf(things, FIRST, LAST).core(3));
+        }
         ProofShop full = Due.fullOf(2, "p", "p&-p");
         due.is("one that never holds", 1 << 29, full.core(1 | 1 << 29));
         due.is("of several that never hold", 1 << 16, full.core(0x3FFF << 16));
@@ -471,5 +490,10 @@ public final class BoundaryWorldsTest {
         due.is("some world is the last alone", 2, early.more(0, 0));
         early.believe(0, 2, true);
         due.is("and that is none then", NONE, early.more(0, 0));
+        for (int things = 1; things <= 3; things++) {
+            due.is("some world is the first alone", 2, Due.shopOf(things, "-p", FIRST).more(0, 0));
+            due.is("it fails in the first world alone", NONE, Due.shopOf(things, "p", "p|" + FIRST).more(0, 0));
+            due.is("it fails in the last world alone", NONE, Due.shopOf(things, "-p", "-p|" + LAST).more(0, 0));
+        }
     }
 }
