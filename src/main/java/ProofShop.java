@@ -1886,11 +1886,15 @@ public final class ProofShop {
             for (int round = 0; round <= MOST_LOOKED && isChanged; round++) {
                 isChanged = false;
                 for (int step = 0; step < stepCount; step++) {
-                    isChanged |= improve(set, steps[step * STEP_FIELDS + 1], costOfStep(set, step));
+                    if (improve(set, steps[step * STEP_FIELDS + 1], costOfStep(set, step))) {
+                        isChanged = true;
+                    }
                 }
                 int absurd = costOfAbsurd(set);
                 for (int place = 0; place < lookedCount; place++) {
-                    isChanged |= improve(set, place, limited(lineCost(ABSURD, place) + absurd));
+                    if (improve(set, place, limited(lineCost(ABSURD, place) + absurd))) {
+                        isChanged = true;
+                    }
                 }
             }
         }
