@@ -125,6 +125,15 @@ public final class BoundaryProofsTest {
             // p&-p is assumed, p and -p are its sides: s by ABSURD.
             due.is("the last", 16 + 14 + 14 + 14 + 11 + 12 + 11, shop.cheapest(0, 0, 4));
         }
+        // What was looked at for one customer is nothing for the next.
+        ProofShop two = Due.shop("r", "p|q", "p>r", "q>r");
+        for (int formula = 1; formula <= 3; formula++) {
+            two.believe(0, formula, true);
+            two.believe(1, formula, formula < 3);
+        }
+        due.is("he has both", 13 + 13 + 13 + 11, two.cheapest(0, 0, 0));
+        due.is("he has one", NONE, two.cheapest(0, 1, 0));
+        due.is("he has none", NONE, two.cheapest(0, 2, 0));
     }
 
     private static void forNothing() {
@@ -148,6 +157,13 @@ public final class BoundaryProofsTest {
         due.is("the lesser of two", 100, both.cheapest(0, 3, 0));
         both.believe(3, 2, false);
         due.is("the other", 102 + 11, both.cheapest(0, 3, 0));
+        // All follows by ABSURD at once, but by ON it is cheaper, though that needs three steps from the last told to the first.
+        ProofShop steps = shop(2, "s", "r>s", "q>r", "p>q", "p", "f0", "-f0");
+        steps.price(0, 14, 99);
+        due.is("by three steps", 11 + 3 * (13 + 11), steps.cheapest(0, 3, 0));
+        due.is("the last of them", 7, steps.lastly(0, 3, 0));
+        steps.rules(0, 65535 & ~(1 << 7));
+        due.is("by ABSURD", 11 + 12 + 100, steps.cheapest(0, 3, 0));
     }
 
     private static void noSuchInProof() {
@@ -193,7 +209,9 @@ public final class BoundaryProofsTest {
         proves(11 + 11 + 13, 2, "p&p", "p");
         proves(2 * (13 + 11) + 13, 2, "p&p", "p&q");
         proves(4 * 11 + 2 * 13 + 17, 2, "(p&p)&(p&p)", "p");
-        proves(3 * 11 + 12, 3, "all p", "p");
+        for (int things = 1; things <= 3; things++) {
+            proves(things * 11 + 12, things, "all p", "p");
+        }
     }
 
     private static void allParts() {
@@ -228,8 +246,22 @@ public final class BoundaryProofsTest {
         proves(13 + 11, 2, withOthers(38, "s", "r&s"));
         proves(NONE, 2, withOthers(39, "s", "r&s"));
         proves(NONE, 2, withOthers(40, "s", "r&s"));
+        // - has one part alone: -r and r are two places.
+        proves(13 + 11, 2, withOthers(36, "s", "-r", "r&s"));
+        proves(NONE, 2, withOthers(37, "s", "-r", "r&s"));
+        isFortieth(13 + 11, 38);
+        isFortieth(NONE, 39);
         // A belief that is itself the goal is looked at, though all others come behind forty.
         proves(11, 2, withOthers(40, "s", "s"));
+    }
+
+    /** An atom has no parts: r, told right behind the goal q and believed by nobody, takes no place. */
+    private static void isFortieth(int cost, int others) {
+        ProofShop shop = Due.shop("q", "r", "p&s" + "&p".repeat(18), "p" + "|s".repeat(others - 21), "f0&q");
+        for (int formula = 2; formula <= 4; formula++) {
+            shop.believe(3, formula, true);
+        }
+        due.is("behind " + others + " others", cost, shop.cheapest(0, 3, 0));
     }
 
     private static void notSame() {
@@ -484,6 +516,13 @@ public final class BoundaryProofsTest {
         due.is("a belief is the least", 0, zero.lastly(0, 3, 0));
         zero.believe(3, 2, false);
         due.is("TWICE", 8, zero.lastly(0, 3, 0));
+        // All for nothing: p&r is had from p, so that p by LEFT of it costs just as much as by ON.
+        ProofShop round = shop(2, "p", "q", "q>p", "r", "p&r>s");
+        due.is("by ON", 7, round.lastly(0, 3, 0));
+        for (int rule = 0; rule <= SIGN; rule++) {
+            round.price(0, rule, 0);
+        }
+        due.is("by LEFT", 3, round.lastly(0, 3, 0));
         // p may be assumed at the cost of its proof by LEFT, but not by itself.
         ProofShop same = shop(2, "p", "p&q", "p>r");
         same.price(0, 1, 23);

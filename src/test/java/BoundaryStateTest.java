@@ -11,6 +11,8 @@ public final class BoundaryStateTest {
         image();
         imageOfAll();
         oneImage();
+        toldAnew();
+        manyToldAgain();
         tapeAndFaultStay();
         back();
         backNone();
@@ -199,6 +201,65 @@ public final class BoundaryStateTest {
         due.is("to the latest", 1, shop.count(1));
         due.is("back again", true, shop.back());
         due.is("not to one before", 1, shop.count(1));
+    }
+
+    /** What was told behind the image is gone with its parts: others take its numbers, and it may be told anew. */
+    private static void toldAnew() {
+        due.term("THE IMAGE (one) of all may be kept, and gone back to");
+        String[] texts = {"p&q", "q|p", "-(p&q)", "all(fx>gx)", "some(fx&p)", "q>p>q", "all -fx", "f0&g1|f1", "--q", "some gx"};
+        for (String gone : texts) {
+            for (String next : texts) {
+                ProofShop shop = Due.shop("p", "r");
+                shop.image();
+                Due.tell(shop, gone);
+                shop.back();
+                Due.tell(shop, next);
+                Due.tell(shop, gone);
+                Due.tell(shop, "(" + next + ")");
+                ProofShop fresh = Due.shop("p", "r", next, gone, next);
+                String what = gone + " gone, then " + next;
+                due.is("SAME: " + what, true, shop.same(2, 4));
+                due.is("the other: " + what, gone.equals(next), shop.same(2, 3));
+                for (int formula = 0; formula < 5; formula++) {
+                    due.is("signs: " + what, fresh.signs(formula), shop.signs(formula));
+                    due.is("worlds: " + what, fresh.worlds(formula), shop.worlds(formula));
+                    due.is("alike: " + what, fresh.alike(formula), shop.alike(formula));
+                }
+            }
+        }
+    }
+
+    private static String long40(int number) {
+        StringBuilder text = new StringBuilder(number % 2 == 0 ? "all(" : "some(");
+        for (int bit = 0; bit < 5; bit++) {
+            text.append((number >> bit & 1) == 0 ? "p&" : "q|");
+        }
+        return text.append("fx&gx|".repeat(7)).append("fx)").toString();
+    }
+
+    /** Of many long formulas those that were kept are SAME as what is told again, whatever was told and gone between. */
+    private static void manyToldAgain() {
+        due.term("THE IMAGE (one) of all may be kept, and gone back to");
+        ProofShop shop = Due.shopOf(3);
+        for (int i = 0; i < 14; i++) {
+            Due.tell(shop, long40(i));
+        }
+        shop.image();
+        for (int i = 14; i < 30; i++) {
+            Due.tell(shop, long40(i));
+        }
+        due.is("back", true, shop.back());
+        for (int i = 0; i < 14; i++) {
+            due.is("told again", 14 + i, Due.tell(shop, long40(i)));
+        }
+        due.is("two of those that were gone", 28, Due.tell(shop, long40(28)));
+        due.is("two of those that were gone", 29, Due.tell(shop, "(" + long40(28) + ")"));
+        for (int i = 0; i < 14; i++) {
+            due.is("SAME as kept " + i, true, shop.same(i, 14 + i));
+            due.is("not as another " + i, false, shop.same(i, 14 + (i + 1) % 14));
+            due.is("nor as one that was gone " + i, false, shop.same(i, 28));
+        }
+        due.is("SAME among those", true, shop.same(28, 29));
     }
 
     private static void tapeAndFaultStay() {

@@ -431,6 +431,11 @@ public final class BoundaryTextTest {
         isSame(false, "all fx", "some fx");
         isSame(false, "all fx", "all f0");
         isSame(false, "all p", "p");
+        ProofShop three = Due.shopOf(3, "all fx", "all f0", "all f1", "all f2", "some(gx&g2)", "some(gx&gx)");
+        for (int thing = 0; thing < 3; thing++) {
+            due.is("x and THING " + thing, false, three.same(0, 1 + thing));
+        }
+        due.is("x and the last THING", false, three.same(4, 5));
     }
 
     private static void feedHighestFirst() {

@@ -392,6 +392,7 @@ public final class BoundaryWorldsTest {
         due.is("it, too", 31, shop.alike(4));
         due.is("all but in the last world", (1 << 30) - 32, shop.alike(29));
         due.is("alone", 2, Due.shop("p", "-p").alike(1));
+        due.is("what never holds, and no formula behind it", 1, Due.shop("p&-p").alike(0));
         for (int things = 1; things <= 3; things++) {
             due.is("all but in the first world", 1, Due.shopOf(things, "-p", "-p&-(" + FIRST + ")").alike(0));
             due.is("all but in the last world", 1, Due.shopOf(things, "p", "p&-(" + LAST + ")").alike(0));

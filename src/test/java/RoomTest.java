@@ -74,7 +74,11 @@ public final class RoomTest {
         shop.image();
         long sum = 0;
         for (int i = 0; i < 120; i++) {
-            Due.tape(shop, i % 2 == 0 ? "all(fx&gx&f0|p)" : "some(fx&gx>f1|q)");
+            StringBuilder text = new StringBuilder("all(fx");
+            for (int bit = 0; bit < 7; bit++) {
+                text.append((i >> bit & 1) == 0 ? "&gx" : "|p");
+            }
+            Due.tape(shop, text.append(')').toString());
             long before = made();
             shop.formula();
             shop.back();
