@@ -481,6 +481,8 @@ public final class ProofShop {
 
         private static final int BUCKETS = 128;
         private static final int FIRST_ROOM = 128;
+        /** Thirty formulas of forty signs, each with three things in place of x, have fewer than 5000. */
+        private static final int MOST_ROOM = 8192;
         /** Forty signs cannot nest deeper. */
         private static final int DEEPEST = 48;
         private static final long[] COLUMNS = {
@@ -542,7 +544,9 @@ public final class ProofShop {
                 }
                 node = next[node];
             }
-            growIfFull();
+            if (!hasRoom()) {
+                return NONE;
+            }
             int made = used;
             kind[made] = newKind;
             first[made] = newFirst;
@@ -560,7 +564,7 @@ public final class ProofShop {
         /** All or some of a body with x; its parts are the body with each thing. */
         int makeBinder(int newKind, int body, int things) {
             int made = make(newKind, body, NONE);
-            for (int thing = 0; thing < things && thing < MOST_THINGS; thing++) {
+            for (int thing = 0; made != NONE && thing < things && thing < MOST_THINGS; thing++) {
                 int part = place(body, thing, 0);
                 placed[made * MOST_THINGS + thing] = part;
             }
@@ -587,17 +591,22 @@ public final class ProofShop {
             }
         }
 
-        private void growIfFull() {
+        /** Whether one more node goes in; the rows grow when they are full. */
+        private boolean hasRoom() {
             if (used < kind.length) {
-                return;
+                return true;
             }
-            int room = used * 2;
+            int room = kind.length * 2;
+            if (room < FIRST_ROOM || room > MOST_ROOM) {
+                return false;
+            }
             kind = Arrays.copyOf(kind, room);
             first = Arrays.copyOf(first, room);
             second = Arrays.copyOf(second, room);
             signs = Arrays.copyOf(signs, room);
             next = Arrays.copyOf(next, room);
             placed = Arrays.copyOf(placed, room * MOST_THINGS);
+            return true;
         }
 
         /** Forgets all nodes from this number on; chains run from later nodes to earlier ones. */
@@ -1364,7 +1373,7 @@ public final class ProofShop {
             return NONE;
         }
 
-        /** Whether a row narrowed by a formula has worlds, all of the goal: asked for each three of thirty, so it stops early. */
+        /** Whether a row narrowed by a formula has worlds, all of the goal; asked so often that it stops early. */
         private boolean provesWith(long[] row, int formula, int goal) {
             long some = 0;
             for (int word = 0; word < books.words(); word++) {

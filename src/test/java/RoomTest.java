@@ -21,6 +21,7 @@ public final class RoomTest {
         ask(full);
         due.is("questions make nothing", true, made() - beforeAsking < 2_000);
         manyImages();
+        mostParts();
         due.close("RoomTest");
     }
 
@@ -86,5 +87,60 @@ public final class RoomTest {
         }
         due.is("forgotten formulas", true, sum < 20_000);
         due.is("none is left", 0, shop.count(1));
+    }
+
+    /** Thirty formulas that share no parts but atoms: some 2300 with each thing in place of x, all still there. */
+    private static void mostParts() {
+        ProofShop shop = new ProofShop();
+        shop.things(3);
+        for (int i = 0; i < 30; i++) {
+            String[] atoms = rowOf(i);
+            String text = "all(" + String.join(i < 24 ? "&" : "|", atoms) + ")";
+            due.is("formula " + text, i, Due.tell(shop, text));
+        }
+        for (int i = 0; i < 30; i++) {
+            int worlds = 0;
+            for (int world = 0; world < 1024; world++) {
+                boolean want = holdsForAll(rowOf(i), i < 24, world);
+                worlds += want ? 1 : 0;
+                if (shop.holds(i, world) != want) {
+                    due.is("formula " + i + " in world " + world, want, !want);
+                }
+            }
+            due.is("worlds of " + i, worlds, shop.worlds(i));
+            due.is("signs of " + i, 40, shop.signs(i));
+        }
+        due.is("truths", shop.count(1), shop.truths(1023));
+    }
+
+    private static String[] rowOf(int i) {
+        String[] seconds = {"p", "q", "r", "s", "f0", "f1", "f2", "g0", "g1", "g2", "fx", "gx"};
+        String[] atoms = new String[20];
+        for (int k = 0; k < atoms.length; k++) {
+            atoms[k] = k == 0 ? seconds[10 + i % 2] : k == 1 ? seconds[i / 2 % 12] : seconds[k % 3];
+        }
+        return atoms;
+    }
+
+    private static boolean holdsForAll(String[] atoms, boolean isAnd, int world) {
+        for (int thing = 0; thing < 3; thing++) {
+            boolean holds = isAnd;
+            for (String atom : atoms) {
+                boolean its = (world >> bitOf(atom, thing) & 1) != 0;
+                holds = isAnd ? holds && its : holds || its;
+            }
+            if (!holds) {
+                return false;
+            }
+        }
+        return true;
+    }
+
+    private static int bitOf(String atom, int thing) {
+        if (atom.length() == 1) {
+            return "pqrs".indexOf(atom);
+        }
+        int at = atom.charAt(1) == 'x' ? thing : atom.charAt(1) - '0';
+        return (atom.charAt(0) == 'f' ? 4 : 7) + at;
     }
 }
